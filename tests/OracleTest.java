@@ -5,7 +5,7 @@ public final class OracleTest {
     private static final Tally TALLY = new Tally("OracleTest");
 
     public static void main(String[] args) {
-        for (int seed = 0; seed < 260 && TALLY.isSound(); seed++) {
+        for (int seed = 0; seed < Integer.getInteger("seeds", 260) && TALLY.isSound(); seed++) {
             walk(seed, seed % 20 == 0 ? 6 : seed % 5 == 0 ? 5 : 4);
         }
         sameObjectManyWills();

@@ -200,8 +200,7 @@ public final class SharesComing {
         if (!canLookAhead(goal) || way < 0 || way > Ways.AS_BEST) {
             return VOID;
         }
-        Sight share = book.sight(Goals.SHARE, Sight.SURE);
-        long outcome = book.ways.outcome(now, way, mean, book.ends(goal, will.back), share);
+        long outcome = book.ways(way, goal, mean).outcome(now);
         return mean ? thousandths(outcome) : (int) outcome;
     }
 
@@ -474,7 +473,10 @@ public final class SharesComing {
         }
 
         int worth(int heir, int sort) {
-            return isHeir(heir) && sort >= 0 && sort < State.SORTS ? worths[heir * State.SORTS + sort] : 0;
+            if (heir < 0 || heir >= heirs || sort < 0 || sort >= State.SORTS) {
+                return 0;
+            }
+            return worths[heir * State.SORTS + sort];
         }
 
         int chance(int day, int alt) {
@@ -534,13 +536,17 @@ public final class SharesComing {
 
         /** What an owner's things are worth to somebody. */
         int valueOf(int heir, long state, int owner) {
-            if (!isHeir(heir)) {
+            if (heir < 0 || heir >= heirs) {
                 return 0;
             }
             int row = heir * State.SORTS;
-            return worths[row] * State.amount(state, 0, owner)
-                + worths[row + 1] * State.amount(state, 1, owner)
-                + worths[row + 2] * State.amount(state, 2, owner);
+            long cells = state >>> State.CELL_BITS * owner;
+            int value = 0;
+            for (int sort = 0; sort < State.SORTS; sort++) {
+                value += worths[row + sort] * ((int) cells & State.CELL_MASK);
+                cells >>>= State.SORT_BITS;
+            }
+            return value;
         }
     }
 
@@ -796,16 +802,9 @@ public final class SharesComing {
         static final int CALM = 1;
         static final int FULL = 1000;
 
-        static int of(Will will, long state, int goal) {
-            if (goal == SHARE) {
-                return leastShare(will, state);
-            }
-            return goal == CALM ? -mostLeftOut(will, state) : sum(will, state);
-        }
-
-        private static int leastShare(Will will, long state) {
+        static int leastShare(Will will, long state) {
             int came = Integer.bitCount(State.cameOf(state));
-            int least = Integer.MAX_VALUE;
+            int least = NONE;
             for (int heir = 0; heir < will.heirs; heir++) {
                 if (State.isThere(state, heir)) {
                     int all = 0;
@@ -813,13 +812,14 @@ public final class SharesComing {
                         all += will.valueOf(heir, state, owner);
                     }
                     int own = will.valueOf(heir, state, heir);
-                    least = Math.min(least, all == 0 ? FULL : own * came * FULL / all);
+                    int share = all == 0 ? FULL : own * came * FULL / all;
+                    least = least == NONE ? share : Math.min(least, share);
                 }
             }
             return least;
         }
 
-        private static int mostLeftOut(Will will, long state) {
+        static int mostLeftOut(Will will, long state) {
             int most = 0;
             for (int one = 0; one < will.heirs; one++) {
                 for (int other = 0; other < will.heirs; other++) {
@@ -854,7 +854,7 @@ public final class SharesComing {
             return out;
         }
 
-        private static int sum(Will will, long state) {
+        static int sum(Will will, long state) {
             int sum = 0;
             for (int heir = 0; heir < will.heirs; heir++) {
                 if (State.isThere(state, heir)) {
@@ -1023,7 +1023,8 @@ public final class SharesComing {
 
     /** What has been found out already; a place outside of it is just not remembered. */
     private static final class Table {
-        static final long UNKNOWN = Long.MIN_VALUE;
+        static final long UNKNOWN = 1L << 63;
+        static final long BEYOND_ALL = ~UNKNOWN;
 
         private long[] found;
         private boolean ready;
@@ -1090,7 +1091,13 @@ public final class SharesComing {
             if (held != NONE) {
                 return bestHandedOut(state, held);
             }
-            return oneBackLess == null ? Goals.of(will, state, goal) : bestTakenBack(state, oneBackLess);
+            if (oneBackLess != null) {
+                return bestTakenBack(state, oneBackLess);
+            }
+            if (goal == Goals.SHARE) {
+                return Goals.leastShare(will, state);
+            }
+            return goal == Goals.CALM ? -Goals.mostLeftOut(will, state) : Goals.sum(will, state);
         }
 
         /** Each time one thing less is HELD, so this goes no deeper than things may be HELD. */
@@ -1179,7 +1186,7 @@ public final class SharesComing {
         }
 
         private long least(long state, int day) {
-            long least = Long.MAX_VALUE;
+            long least = Table.BEYOND_ALL;
             for (int alt = 0; alt < will.alts(day); alt++) {
                 least = Math.min(least, afterAlt(state, day, alt));
             }
@@ -1308,7 +1315,7 @@ public final class SharesComing {
                 walked = new int[Math.max(need, Math.min(2 * walked.length, Ranks.MOST_PLACES))];
             }
             walk++;
-            least = Long.MAX_VALUE;
+            least = Table.BEYOND_ALL;
             floor = sure;
             walkOn(now, now & ~State.CELLS, ends);
             return least;
@@ -1381,36 +1388,39 @@ public final class SharesComing {
         static final int AS_BEST = 4;
 
         private final Will will;
+        private final Sight share;
         private int way;
         private boolean mean;
         private Ends ends;
-        private Sight share;
 
-        Ways(Will will, Ends ends, Sight share) {
+        Ways(Will will, Sight share, Ends ends) {
             this.will = will;
-            this.ends = ends;
             this.share = share;
+            this.ends = ends;
         }
 
-        long outcome(long now, int ofWay, boolean inMean, Ends byEnds, Sight byShare) {
-            way = ofWay;
-            mean = inMean;
-            ends = byEnds;
-            share = byShare;
-            return outcomeFrom(now);
+        void goBy(int newWay, boolean newMean, Ends newEnds) {
+            way = newWay;
+            mean = newMean;
+            ends = newEnds;
         }
 
-        private long outcomeFrom(long state) {
+        /** A mean is told times twelve to the power of the DAYS to come. */
+        long outcome(long state) {
             int day = State.dayOf(state);
             if (day >= will.days) {
                 return ends.value(state);
             }
             long sum = 0;
-            long least = Long.MAX_VALUE;
+            long least = Table.BEYOND_ALL;
             for (int alt = 0; alt < will.alts(day); alt++) {
                 int sort = will.thing(day, alt);
                 long next = will.passed(state, day, alt);
-                long outcome = outcomeFrom(sort == NONE ? next : State.with(next, sort, gift(next, sort)));
+                if (sort != NONE) {
+                    int to = way == AS_BEST ? share.bestGift(next, sort) : gift(next, sort);
+                    next = State.with(next, sort, to);
+                }
+                long outcome = outcome(next);
                 sum += will.chance(day, alt) * outcome;
                 least = Math.min(least, outcome);
             }
@@ -1418,9 +1428,6 @@ public final class SharesComing {
         }
 
         private int gift(long state, int sort) {
-            if (way == AS_BEST) {
-                return share.bestGift(state, sort);
-            }
             if (way == HOLDING && will.mayGive(state, State.HELD, will.hold)) {
                 return State.HELD;
             }
@@ -1451,9 +1458,9 @@ public final class SharesComing {
         private static final int MOST_BACKS = 2;
 
         final Rows rows;
-        final Ways ways;
         private final Will will;
         private final Ranks ranks;
+        private final Ways ways;
         private final Ends[] ends;
         private final Sight[] sights;
 
@@ -1474,7 +1481,7 @@ public final class SharesComing {
                 Ends own = ends[place / Sight.KINDS * (MOST_BACKS + 1)];
                 sights[place] = new Sight(will, ranks, place % Sight.KINDS, own);
             }
-            ways = new Ways(will, ends[0], sights[0]);
+            ways = new Ways(will, sights[0], ends[0]);
         }
 
         void startAnew() {
@@ -1501,6 +1508,15 @@ public final class SharesComing {
             sight.table.makeReady(ranks.dayPlaces(), Ranks.MOST_DAY_PLACES);
             sight.endsBy(ends(goal, will.back + (kind == Sight.MENDING ? 1 : 0)));
             return sight;
+        }
+
+        Ways ways(int way, int goal, boolean mean) {
+            if (way == Ways.AS_BEST) {
+                // The Ways hold on to this Sight, which must be ready for the will at hand.
+                sight(Goals.SHARE, Sight.SURE);
+            }
+            ways.goBy(way, mean, ends(goal, will.back));
+            return ways;
         }
     }
 }
