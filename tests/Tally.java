@@ -1,5 +1,8 @@
 /** Counts the answers that are not as due, and knows how to feed a text. */
 final class Tally {
+    static final int LEAST = Integer.MIN_VALUE;
+    static final int MOST = Integer.MAX_VALUE;
+
     private final String name;
     private int asked;
     private int wrong;
@@ -22,6 +25,10 @@ final class Tally {
         due(call, got ? 1 : 0, want ? 1 : 0);
     }
 
+    void due(String call, String got, String want) {
+        due(call + " told as " + want, got.equals(want), true);
+    }
+
     boolean isSound() {
         return wrong == 0;
     }
@@ -30,6 +37,20 @@ final class Tally {
         System.out.println(name + ": " + asked + " answers, " + wrong + " not as due");
         if (wrong != 0) {
             System.exit(1);
+        }
+    }
+
+    /** A caret stands before the byte where the FAULT is due; without a caret there is none. */
+    void faults(String... texts) {
+        for (String marked : texts) {
+            int place = marked.indexOf('^');
+            String text = place < 0 ? marked : marked.substring(0, place) + marked.substring(place + 1);
+            SharesComing x = new SharesComing();
+            tell(x, text);
+            due("bytes of '" + marked + "'", x.count(8), text.length());
+            due("fault of '" + marked + "'", x.fault(), place);
+            due("matter of '" + marked + "'", x.matter() == SharesComing.NONE, place >= 0);
+            due("bytes behind '" + marked + "'", x.count(8), place < 0 ? 0 : text.length());
         }
     }
 
