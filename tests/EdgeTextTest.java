@@ -285,6 +285,7 @@ public final class EdgeTextTest {
         TALLY.faults(late + "day 12 comes ^a;", late + "day 12 comes ^c;", late + "day 12 comes ^bcd;", late + "day 12 comes ^;");
         TALLY.faults(late + "day 12 comes ^1;", late + "day 6 none,6 comes ^a;", late + "day 12 comes^");
         TALLY.faults(A + "day 12 comes ^b;late b 0 0 0;", "day 12 comes ^b;", A + "late b 0 0 0 ^day 12 comes b;");
+        TALLY.faults("late b 0 0 0;day 12 comes ^none;", "late b 0 0 0;day 12 comes ^1;", "late b 0 0 0;day 12 comes^");
         TALLY.faults("late b 0 0 0;day 12 comes b;" + A, "late b 0 0 0;day 12 comes ^a;" + A);
         SharesComing x = Tally.of("late c 0 0 0;day 6 comes c,6 none;" + A + "late b 0 0 0;day 12 comes b;");
         TALLY.due("c is heir 0", x.alt(0, 0, 2), 0);
@@ -302,6 +303,7 @@ public final class EdgeTextTest {
             TALLY.faults(told, told + "^back " + back + ";", told + "hold 0;^back");
             TALLY.due("back", Tally.of(told).count(7), back);
         }
+        TALLY.faults("hold ^3", "hold ^3 hold 1;", "back ^2", "back ^2 back 1;", "hold ^hold 1;", "back ^back 1;");
         TALLY.faults(A + "hold ^3;", A + "back ^2;", A + "hold ^-1;", A + "back ^-1;", A + "hold ^;", A + "back ^;");
         TALLY.faults(A + "hold ^none;", A + "back ^a;", A + "hold 1 ^1;", A + "back 1 ^1;", A + "hold 1 ^back 1;");
         TALLY.due("hold without", Tally.of(A + "back 1;").count(6), 0);

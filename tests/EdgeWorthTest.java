@@ -130,6 +130,8 @@ public final class EdgeWorthTest {
         x.come(1);
         TALLY.due("b came, though behind the thing", x.reached(2), 20);
         TALLY.due("and it is held until then", x.count(4), 1);
+        SharesComing y = walked("heir a 1 0 0;heir b 1 0 0;late c 1 0 0;" + things("0") + "hold 1;", 3);
+        goals(y, "calm would like it with c, who didn't come", 0, -1, 1);
         goals(walked("heir a 2 1 0;heir b 1 2 0;" + things("01") + "hold 2;", 3, 3), "each to another", 1333, 0, 4);
         goals(walked("heir a 2 1 0;heir b 1 2 0;" + things("00") + "hold 2;", 3, 3), "the goals part", 1000, 0, 4);
     }
@@ -145,6 +147,12 @@ public final class EdgeWorthTest {
     }
 
     private static void backToAnotherWhoCame() {
+        String like = "heir a 1 0 0;heir b 1 0 0;late c 1 0 0;";
+        TALLY.due("calm would like it with c", walked(like + things("0") + "back 1;", 0).reached(1), -1);
+        TALLY.due("calm would take three to c", walked(like + things("000") + "back 1;", 0, 0, 0).reached(1), -1);
+        SharesComing y = walked("heir a 3 0 0;heir b 1 0 0;late c 20 0 0;" + things("00") + "back 1;", 1, 1);
+        TALLY.due("c didn't come: one to a", y.reached(2), 4);
+        TALLY.due("calm with one taken back", y.reached(1), 0);
         TALLY.due("b didn't come", walked("heir a 3 0 0;late b 20 0 0;day 12 thing 0;back 1;", 0).reached(2), 3);
         TALLY.due("one heir alone", walked("heir a 3 0 0;day 12 thing 0;back 1;", 0).reached(2), 3);
         SharesComing x = walked("heir a 3 0 0;late b 20 0 0;day 12 thing 0;day 12 comes b;back 1;", 0, 9);
@@ -217,6 +225,14 @@ public final class EdgeWorthTest {
         TALLY.due("24 less 20 and 2", walked(text, 0, 0, 0, 1, 1, 1).reached(1), -2);
         TALLY.due("22 less 20", walked(text, 0, 0, 0, 0, 1, 1).reached(1), -1);
         TALLY.due("7 less none", walked(text, 1, 1, 1, 1, 1, 0).reached(1), 0);
+        String first = "heir a 20 2 1;heir b 0 0 0;" + things("000112");
+        TALLY.due("25 beat 40", walked(first, 0, 1, 1, 0, 0, 0).reached(1), -1);
+        TALLY.due("60 beat 5", walked(first, 0, 0, 0, 1, 1, 1).reached(1), 0);
+        TALLY.due("one beats 64 less 60 and 2 and 2", walked(first, 1, 1, 1, 1, 1, 0).reached(1), -5);
+        TALLY.due("two beat 63 less 60 and 2", walked(first, 1, 1, 1, 0, 1, 1).reached(1), -4);
+        String last = "heir a 1 20 3;heir b 0 0 0;" + things("12");
+        TALLY.due("no thing of sort 0", walked(last, 1, 1).reached(1), -2);
+        TALLY.due("20 to leave out", walked(last, 1, 0).reached(1), -1);
     }
 
     private static void sumOfWhoCame() {
@@ -352,6 +368,16 @@ public final class EdgeWorthTest {
         SharesComing held = Tally.of(TURN + "hold 1;");
         TALLY.due("held", held.proof(0, 0), 3);
         TALLY.due("then the least", held.proof(0, 1), 0);
+        SharesComing turns = Tally.of("heir a 1 0 0;heir b 1 0 0;heir c 1 0 0;" + things("000"));
+        for (int k = 0; k < 3; k++) {
+            TALLY.due("each gift stands on the ones ahead, " + k, turns.proof(0, k), k);
+        }
+        SharesComing late = Tally.of("late a 9 0 0;heir b 1 0 0;day 6 comes a,6 none;day 12 thing 0;day 6 none,6 thing 0;");
+        TALLY.due("sum: he doesn't come", late.proof(2, 0), 19);
+        TALLY.due("so b has it", late.proof(2, 1), 1);
+        TALLY.due("and no more", late.proof(2, 2), 9);
+        TALLY.due("calm: he comes", late.proof(1, 0), 9);
+        TALLY.due("and has it", late.proof(1, 1), 0);
     }
 
     private static void rowsThatCanBe() {
@@ -391,6 +417,9 @@ public final class EdgeWorthTest {
         TALLY.due("no third alt", x.known(2, 2), VOID);
         TALLY.due("no second day", x.known(2, 4), VOID);
         TALLY.due("judge of two days", x.judge(4, 0), 9);
+        TALLY.due("judge of a gift of nothing", x.judge(1, 1), 0);
+        TALLY.due("judged of its second alt", x.judged(2, 1, 0), 1);
+        TALLY.due("judged of its first alt", x.judged(2, 0, 0), 4);
         x.come(1);
         TALLY.due("all days over", x.known(2, 0), 1);
         TALLY.due("all days over, row 1", x.known(2, 1), VOID);
@@ -400,6 +429,14 @@ public final class EdgeWorthTest {
         TALLY.due("all days over, gift 1", x.judge(0, 1), 9);
         TALLY.due("all days over, judged", x.judged(2, 0, 0), 1);
         TALLY.due("all days over, cost", x.cost(2), 0);
+        String three = "heir a 1 0 0;heir b 2 5 0;day 12 thing 0;day 6 none,6 thing 1;day 6 thing 0,6 thing 1;";
+        SharesComing y = walked(three, 0);
+        TALLY.due("known of the second alts", y.known(2, 5), 11);
+        TALLY.due("judge of the second alts", y.judge(5, 5), -1);
+        TALLY.due("judged of the second alts", y.judged(2, 5, 5), 11);
+        TALLY.due("judged of the one and the other", y.judged(2, 4, 4), 6);
+        TALLY.due("the first day to come counts as 0", y.judge(0, 1), 0);
+        TALLY.due("the second as 1", y.judge(0, 8), 1);
     }
 
     /** What is known beforehand comes in its turn all the same: only who CAME may be given to. */
@@ -427,8 +464,13 @@ public final class EdgeWorthTest {
         TALLY.due("no days", Tally.of("heir a 1 1 1;").cost(0), 0);
         SharesComing calm = Tally.of("heir a 2 2 0;heir b 2 0 2;" + "day 12 thing 0;day 6 thing 1,6 thing 2;");
         TALLY.due("calm that is sure", calm.sure(1, false), -1);
-        TALLY.due("known is below 0, too", calm.known(1, 0), 0);
+        TALLY.due("calm that is known", calm.known(1, 0), 0);
         TALLY.due("cost of calm", calm.cost(1), 1);
+        SharesComing late = Tally.of("heir a 1 0 0;late b 1 0 0;day 12 thing 0;day 6 none,6 thing 0;day 12 comes b;");
+        TALLY.due("known below 0", late.known(1, 0), -1);
+        TALLY.due("the least known below 0", late.known(1, 4), -2);
+        TALLY.due("as is sure", late.sure(1, false), -2);
+        TALLY.due("knowing doesn't help", late.cost(1), 0);
     }
 
     private static void waysThatAre() {
